@@ -1,0 +1,37 @@
+/** Compares answers with the ones that are due, and ends the test with exit code 1 if one differs. */
+final class Check {
+    private int wrong = 0;
+    private int asked = 0;
+
+    void due(String call, long got, long want) {
+        asked++;
+        if (got != want) {
+            wrong++;
+            System.out.println(call + " answered " + got + ", due is " + want);
+        }
+    }
+
+    void due(String call, boolean got, boolean want) {
+        due(call, got ? 1L : 0L, want ? 1L : 0L);
+    }
+
+    void same(String what, String got, String want) {
+        asked++;
+        if (!got.equals(want)) {
+            wrong++;
+            System.out.println(what + " is\n  " + got + "\ndue is\n  " + want);
+        }
+    }
+
+    void end() {
+        if (asked == 0) {
+            System.out.println("nothing was tested");
+            System.exit(1);
+        }
+        if (wrong != 0) {
+            System.out.println(wrong + " of " + asked + " answers are not as due");
+            System.exit(1);
+        }
+        System.out.println("all " + asked + " answers are as due");
+    }
+}
