@@ -1,13 +1,13 @@
 /** Compares answers with the ones that are due, and ends the test with exit code 1 if one differs. */
 final class Check {
+    private static final int TOLD = 50;
     private int wrong = 0;
     private int asked = 0;
 
     void due(String call, long got, long want) {
         asked++;
         if (got != want) {
-            wrong++;
-            System.out.println(call + " answered " + got + ", due is " + want);
+            tell(call + " answered " + got + ", due is " + want);
         }
     }
 
@@ -18,8 +18,14 @@ final class Check {
     void same(String what, String got, String want) {
         asked++;
         if (!got.equals(want)) {
-            wrong++;
-            System.out.println(what + " is\n  " + got + "\ndue is\n  " + want);
+            tell(what + " is\n  " + got + "\ndue is\n  " + want);
+        }
+    }
+
+    private void tell(String text) {
+        wrong++;
+        if (wrong <= TOLD) {
+            System.out.println(text);
         }
     }
 
