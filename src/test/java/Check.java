@@ -1,8 +1,25 @@
 /** Compares answers with the ones that are due, and ends the test with exit code 1 if one differs. */
 final class Check {
     private static final int TOLD = 50;
+    private static final int LONGEST_MILLIS = 120_000;
+    private static final int EXIT_ON_HANG = 3;
     private int wrong = 0;
     private int asked = 0;
+
+    /** From here on the test has its time: a call that doesn't end must not keep the test from failing. */
+    Check() {
+        Thread watch = new Thread(() -> {
+            try {
+                Thread.sleep(LONGEST_MILLIS);
+            } catch (InterruptedException stopped) {
+                return;
+            }
+            System.out.println("the test does not end");
+            Runtime.getRuntime().halt(EXIT_ON_HANG);
+        });
+        watch.setDaemon(true);
+        watch.start();
+    }
 
     void due(String call, long got, long want) {
         asked++;

@@ -89,20 +89,23 @@ public final class Promise08DominanceTest {
         }
     }
 
-    /** Object 0 puts an object that it owns into a field of object 1, which stands beside it. */
+    /** An object puts one that it owns into a field of another, which stands beside it and is older or younger. */
     private static void throughAField() {
-        OwnerDominance x = program();
-        x.addStmt(1, NEW, 2, REP);
-        x.addStmt(1, STORE, 1, 8 * 1 + 2);
-        x.addStmt(1, NULL, 2, 0);
-        x.addStmt(MAIN, NEW, 6, 1);
-        x.addStmt(MAIN, NEW, 0, 0);
-        x.addStmt(MAIN, CALL, 2, 8 * 0 + 6);
-        compile(x);
-        violates(x, 4);
-        CHECK.due("the field", x.getObject(1, 5), 2);
-        CHECK.due("its owner", x.getObject(2, 1), 0);
-        CHECK.due("pc", x.getFrame(1, 1), 2);
+        for (int owner = 0; owner <= 1; owner++) {
+            int other = 1 - owner;
+            OwnerDominance x = program();
+            x.addStmt(1, NEW, 2, REP);
+            x.addStmt(1, STORE, 1, 8 * 1 + 2);
+            x.addStmt(1, NULL, 2, 0);
+            x.addStmt(MAIN, NEW, owner == 0 ? 6 : 0, owner == 0 ? 1 : 0);
+            x.addStmt(MAIN, NEW, owner == 0 ? 0 : 6, owner == 0 ? 0 : 1);
+            x.addStmt(MAIN, CALL, 2, 8 * 0 + 6);
+            compile(x);
+            violates(x, 4);
+            CHECK.due("the field", x.getObject(other, 5), 2);
+            CHECK.due("its owner", x.getObject(2, 1), owner);
+            CHECK.due("pc", x.getFrame(1, 1), 2);
+        }
     }
 
     private static void throughEveryField() {
