@@ -1,10 +1,14 @@
 /** Compares answers with the ones that are due, and ends the test with exit code 1 if one differs. */
 final class Check {
-    private static final int TOLD = 50;
+    private static final int TOLD_PER_SENTENCE = 10;
     private static final int LONGEST_MILLIS = 120_000;
     private static final int EXIT_ON_HANG = 3;
     private int wrong = 0;
     private int asked = 0;
+    private int sentences = 0;
+    private String sentence = "";
+    private int wrongBefore = 0;
+    private int askedBefore = 0;
 
     /** From here on the test has its time: a call that doesn't end must not keep the test from failing. */
     Check() {
@@ -19,6 +23,21 @@ final class Check {
         });
         watch.setDaemon(true);
         watch.start();
+    }
+
+    /** From here on the answers belong to this sentence of the document, which must have some of its own. */
+    void says(String text) {
+        endSentence();
+        sentence = text;
+        sentences++;
+        wrongBefore = wrong;
+        askedBefore = asked;
+    }
+
+    private void endSentence() {
+        if (sentences > 0 && asked == askedBefore) {
+            tell("nothing was tested");
+        }
     }
 
     void due(String call, long got, long want) {
@@ -40,13 +59,17 @@ final class Check {
     }
 
     private void tell(String text) {
+        if (wrong == wrongBefore && sentences > 0) {
+            System.out.println("The document says: " + sentence);
+        }
         wrong++;
-        if (wrong <= TOLD) {
+        if (wrong - wrongBefore <= TOLD_PER_SENTENCE) {
             System.out.println(text);
         }
     }
 
     void end() {
+        endSentence();
         if (asked == 0) {
             System.out.println("nothing was tested");
             System.exit(1);
@@ -55,6 +78,7 @@ final class Check {
             System.out.println(wrong + " of " + asked + " answers are not as due");
             System.exit(1);
         }
-        System.out.println("all " + asked + " answers are as due");
+        String of = sentences > 0 ? " of " + sentences + " sentences" : "";
+        System.out.println("all " + asked + " answers" + of + " are as due");
     }
 }
