@@ -5,15 +5,15 @@ public final class Promise07OperandsTest {
     private static final int BADOPERAND = OwnerDominance.E_BADOPERAND;
     private static final int MISMATCH = OwnerDominance.E_MISMATCH;
     private static final int MAIN = OwnerDominance.BODY_MAIN;
-    private static final int[] FAR = {-1, -2, -8, -64, 1000, Integer.MIN_VALUE, Integer.MAX_VALUE};
 
     public static void main(String[] args) {
         operations();
         targets();
         moves();
+        packed();
         fields();
-        calls();
-        returns();
+        returnInMain();
+        assignmentToThis();
         ignoredOperands();
         beforeTyping();
         CHECK.end();
@@ -41,8 +41,8 @@ public final class Promise07OperandsTest {
     }
 
     private static void operations() {
-        int[] wrong = {0, 8, 9, 16, -1, -7, Integer.MIN_VALUE, Integer.MAX_VALUE};
-        for (int op : wrong) {
+        CHECK.says("**S1:** op not in 1..7 gives E_BADOPERAND.");
+        for (int op : Ints.notIn(1, 7)) {
             both(0, op, 2, 1, BADOPERAND);
             both(MAIN, op, 2, 1, BADOPERAND);
         }
@@ -53,36 +53,54 @@ public final class Promise07OperandsTest {
         }
     }
 
+    /** A second operand that fits every variable of the program. */
+    private static int fitting(int op) {
+        return op == OwnerDominance.OP_NEW ? 0 : op == OwnerDominance.OP_MOVE ? 1 : 10;
+    }
+
     private static void targets() {
+        CHECK.says("**S2:** a not in 0..7 gives E_BADOPERAND.");
         for (int op = 1; op <= 7; op++) {
-            int b = op == OwnerDominance.OP_NEW ? 0 : op == OwnerDominance.OP_MOVE ? 1 : 10;
-            for (int a : FAR) {
+            int b = fitting(op);
+            for (int a : Ints.notIn(0, 7)) {
                 both(0, op, a, b, BADOPERAND);
                 both(MAIN, op, a, b, BADOPERAND);
             }
-            both(0, op, 8, b, BADOPERAND);
-            both(MAIN, op, 8, b, BADOPERAND);
             for (int a = 1; a <= 7; a++) {
                 both(0, op, a, b, OK);
             }
-            boolean leavesThis = op == OwnerDominance.OP_STORE;
-            if (op != OwnerDominance.OP_RETURN) {
-                both(0, op, 0, b, leavesThis ? OK : BADOPERAND);
-                for (int a = 0; a <= 7; a++) {
-                    both(MAIN, op, a, b, OK);
-                }
+            for (int a = 0; a <= 7 && op != OwnerDominance.OP_RETURN; a++) {
+                both(MAIN, op, a, b, OK);
             }
         }
     }
 
+    private static void returnInMain() {
+        CHECK.says("**S4:** E_BADOPERAND if K is main and op is OP_RETURN.");
+        for (int a = -1; a <= 8; a++) {
+            both(MAIN, OwnerDominance.OP_RETURN, a, 0, BADOPERAND);
+        }
+    }
+
+    private static void assignmentToThis() {
+        CHECK.says("Also E_BADOPERAND if K is a class, a == 0, and op is OP_NEW, OP_MOVE, OP_LOAD, OP_CALL or"
+                + " OP_NULL.");
+        for (int op = 1; op <= 6; op++) {
+            boolean leavesThis = op == OwnerDominance.OP_STORE;
+            both(0, op, 0, fitting(op), leavesThis ? OK : BADOPERAND);
+            both(MAIN, op, 0, fitting(op), OK);
+            both(0, op, 1, fitting(op), OK);
+        }
+        stmt(0, OwnerDominance.OP_RETURN, 0, 0, MISMATCH, OK);
+    }
+
     private static void moves() {
+        CHECK.says("**S3:** E_BADOPERAND for OP_MOVE with b not in 0..7");
         int op = OwnerDominance.OP_MOVE;
-        for (int b : FAR) {
+        for (int b : Ints.notIn(0, 7)) {
             both(0, op, 2, b, BADOPERAND);
             both(MAIN, op, 2, b, BADOPERAND);
         }
-        both(0, op, 2, 8, BADOPERAND);
-        both(MAIN, op, 2, 8, BADOPERAND);
         stmt(0, op, 2, 0, MISMATCH, OK);
         for (int b = 0; b <= 7; b++) {
             both(MAIN, op, 2, b, OK);
@@ -92,15 +110,26 @@ public final class Promise07OperandsTest {
         }
     }
 
-    private static void fields() {
-        int[] ops = {OwnerDominance.OP_LOAD, OwnerDominance.OP_STORE};
+    private static void packed() {
+        CHECK.says("or for OP_LOAD, OP_STORE or OP_CALL with b not in 0..63.");
+        int[] ops = {OwnerDominance.OP_LOAD, OwnerDominance.OP_STORE, OwnerDominance.OP_CALL};
         for (int op : ops) {
-            for (int b : FAR) {
+            for (int b : Ints.notIn(0, 63)) {
                 both(0, op, 2, b, BADOPERAND);
                 both(MAIN, op, 2, b, BADOPERAND);
             }
-            both(0, op, 2, 64, BADOPERAND);
-            both(MAIN, op, 2, 64, BADOPERAND);
+        }
+        for (int b = 0; b <= 63; b++) {
+            both(MAIN, OwnerDominance.OP_CALL, 2, b, OK);
+            stmt(0, OwnerDominance.OP_CALL, 2, b, b / 8 == 0 ? MISMATCH : OK, OK);
+        }
+    }
+
+    /** There are three fields, so b = 0..23 names one of them. */
+    private static void fields() {
+        CHECK.says("Let y = b % 8 and q = b / 8.");
+        int[] ops = {OwnerDominance.OP_LOAD, OwnerDominance.OP_STORE};
+        for (int op : ops) {
             for (int b = 0; b <= 63; b++) {
                 int due = b / 8 < 3 ? OK : BADOPERAND;
                 both(MAIN, op, 2, b, due);
@@ -110,33 +139,9 @@ public final class Promise07OperandsTest {
         }
     }
 
-    private static void calls() {
-        int op = OwnerDominance.OP_CALL;
-        for (int b : FAR) {
-            both(0, op, 2, b, BADOPERAND);
-            both(MAIN, op, 2, b, BADOPERAND);
-        }
-        both(0, op, 2, 64, BADOPERAND);
-        both(MAIN, op, 2, 64, BADOPERAND);
-        for (int b = 0; b <= 63; b++) {
-            both(MAIN, op, 2, b, OK);
-            stmt(0, op, 2, b, b / 8 == 0 ? MISMATCH : OK, OK);
-        }
-    }
-
-    private static void returns() {
-        int op = OwnerDominance.OP_RETURN;
-        stmt(0, op, 0, 0, MISMATCH, OK);
-        for (int a = -1; a <= 8; a++) {
-            both(MAIN, op, a, 0, BADOPERAND);
-            if (a > 0) {
-                both(0, op, a, 0, a < 8 ? OK : BADOPERAND);
-            }
-        }
-    }
-
     private static void ignoredOperands() {
-        for (int b : FAR) {
+        CHECK.says("b is ignored by OP_NULL and OP_RETURN.");
+        for (int b : Ints.notIn(0, 0)) {
             both(0, OwnerDominance.OP_NULL, 2, b, OK);
             both(MAIN, OwnerDominance.OP_NULL, 2, b, OK);
             both(0, OwnerDominance.OP_RETURN, 2, b, OK);
@@ -144,6 +149,7 @@ public final class Promise07OperandsTest {
     }
 
     private static void beforeTyping() {
+        CHECK.says("Each statement in body K is tested with these tests, in this order:");
         both(0, OwnerDominance.OP_NEW, 8, -1, BADOPERAND);
         both(0, OwnerDominance.OP_NEW, 0, -1, BADOPERAND);
         both(0, OwnerDominance.OP_NEW, 0, 16, BADOPERAND);

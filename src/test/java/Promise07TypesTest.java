@@ -11,9 +11,14 @@ public final class Promise07TypesTest {
     private static final String[] OUTSIDE = {"11111", "01100", "00100", "01110", "01101"};
 
     public static void main(String[] args) {
-        encoding();
-        contexts();
+        range();
+        classIds();
+        usedSlots();
+        unusedSlots();
+        contextOfMain();
+        contextOfAClass();
         outside();
+        noArguments();
         order();
         CHECK.end();
     }
@@ -76,56 +81,118 @@ public final class Promise07TypesTest {
         valid(type, body, due, due);
     }
 
-    private static void encoding() {
+    private static void range() {
+        CHECK.says("E_BADTYPE unless all of these hold: 0 <= t <= 65535");
         int[] bodies = {0, 1, 2, MAIN};
-        int[] bad = {-1, -2, Integer.MIN_VALUE, Integer.MAX_VALUE, 65535, 65536, 65537, 131072, 0x10000000,
-            3, 4, 7, 8, 15, 0x13, 0x1f, -65536, -65535, 0xffff0000};
+        int[] good = {0, 1, 2};
+        // Bits beyond the sixteenth must not be dropped: without them these would be good types.
+        int[] beyond = {65536, -65536, 131072, 0x00100000, 0x01000000, 0x10000000, 0x40000000, Integer.MIN_VALUE,
+            0xffff0000, 0x7fff0000};
         for (int body : bodies) {
-            for (int type : bad) {
-                both(type, body, BADTYPE);
+            for (int type : good) {
+                both(type, body, OK);
+                for (int more : beyond) {
+                    both(type + more, body, BADTYPE);
+                }
             }
+            both(-1, body, BADTYPE);
+            both(-2, body, BADTYPE);
+            both(65535, body, BADTYPE);
+            both(Integer.MAX_VALUE, body, BADTYPE);
+        }
+        both(0x4442, 2, OK);
+        both(0x4442 + 65536, 2, BADTYPE);
+        both(0x4442 - 65536, 2, BADTYPE);
+    }
+
+    private static void classIds() {
+        CHECK.says("E_BADTYPE unless all of these hold: 0 <= t <= 65535, cls < classCount");
+        for (int classes = 1; classes <= 8; classes++) {
+            for (int cls = 0; cls <= 15; cls++) {
+                for (int mode = 0; mode <= 1; mode++) {
+                    OwnerDominance x = new OwnerDominance(8);
+                    for (int c = 0; c < classes; c++) {
+                        x.addClass(0);
+                    }
+                    x.setLocal(classes - 1, 2, Types.type(cls, Types.REP));
+                    String what = "class " + cls + " of " + classes + ": compile(" + mode + ")";
+                    CHECK.due(what, x.compile(mode), cls < classes ? OK : BADTYPE);
+                    CHECK.due("getErrorAt()", x.getErrorAt(), cls < classes ? -1 : 32 * (classes - 1) + 10);
+                }
+            }
+        }
+        for (int cls = 3; cls <= 15; cls++) {
+            both(cls, 2, BADTYPE);
+            both(cls, MAIN, BADTYPE);
+        }
+    }
+
+    private static void usedSlots() {
+        CHECK.says("The USED slots are o0..o_k with k = formals(cls) .. every used slot <= 4");
+        int[] bodies = {0, 1, 2, MAIN};
+        for (int body : bodies) {
             for (int slot = 5; slot <= 15; slot++) {
                 both(Types.type(0, slot), body, BADTYPE);
+                both(Types.type(1, slot, 0), body, BADTYPE);
                 both(Types.type(1, 0, slot), body, BADTYPE);
+                both(Types.type(2, slot, 0, 0), body, BADTYPE);
+                both(Types.type(2, 0, slot, 0), body, BADTYPE);
                 both(Types.type(2, 0, 0, slot), body, BADTYPE);
             }
+        }
+        both(Types.type(0, 4), 2, OK);
+        both(Types.type(1, 4, 4), 2, OK);
+        both(Types.type(2, 4, 4, 4), 2, OK);
+    }
+
+    private static void unusedSlots() {
+        CHECK.says("E_BADTYPE unless all of these hold: .. and every unused slot is 0.");
+        int[] bodies = {0, 1, 2, MAIN};
+        for (int body : bodies) {
             for (int slot = 1; slot <= 15; slot++) {
                 both(Types.type(0, 0, slot), body, BADTYPE);
                 both(Types.type(0, 0, 0, slot), body, BADTYPE);
                 both(Types.type(1, 0, 0, slot), body, BADTYPE);
             }
         }
-        both(0x4442, 2, OK);
-        both(0x441, 2, OK);
-        both(0x40, 2, OK);
     }
 
-    private static void contexts() {
+    private static void contextOfMain() {
+        CHECK.says("E_CONTEXT unless each used slot is allowed in K: in main, only A_WORLD is allowed;");
         for (int atom = 0; atom <= 4; atom++) {
-            int[] greatest = {Types.REP, Types.P1, Types.P2};
-            for (int body = 0; body <= 2; body++) {
+            int due = atom == 0 ? OK : CONTEXT;
+            both(Types.type(0, atom), MAIN, due);
+            both(Types.type(1, atom, 0), MAIN, due);
+            both(Types.type(1, 0, atom), MAIN, due);
+            both(Types.type(2, atom, 0, 0), MAIN, due);
+            both(Types.type(2, 0, atom, 0), MAIN, due);
+            both(Types.type(2, 0, 0, atom), MAIN, due);
+            both(Types.type(2, atom, atom, atom), MAIN, due);
+        }
+    }
+
+    private static void contextOfAClass() {
+        CHECK.says("in class K, A_WORLD, A_OWNER and A_REP are always allowed, A_P1 is allowed iff formals(K) >= 1,"
+                + " and A_P2 is allowed iff formals(K) >= 2.");
+        int[] greatest = {Types.REP, Types.P1, Types.P2};
+        for (int body = 0; body <= 2; body++) {
+            for (int atom = 0; atom <= 4; atom++) {
                 int due = atom <= greatest[body] ? OK : CONTEXT;
                 both(Types.type(0, atom), body, due);
                 both(Types.type(1, atom, atom), body, due);
                 both(Types.type(2, atom, atom, atom), body, due);
                 both(Types.type(2, atom, 0, 0), body, due);
+                if (due == CONTEXT) {
+                    both(Types.type(1, 0, atom), body, due);
+                    both(Types.type(2, 0, atom, 0), body, due);
+                    both(Types.type(2, 0, 0, atom), body, due);
+                }
             }
-            int due = atom == 0 ? OK : CONTEXT;
-            both(Types.type(0, atom), MAIN, due);
-            both(Types.type(1, 0, atom), MAIN, due);
-            both(Types.type(2, 0, atom, 0), MAIN, due);
-            both(Types.type(2, 0, 0, atom), MAIN, due);
         }
-        for (int argument = 3; argument <= 4; argument++) {
-            both(Types.type(1, 0, argument), 0, CONTEXT);
-            both(Types.type(2, 0, 0, argument), 0, CONTEXT);
-        }
-        both(Types.type(1, 0, Types.P2), 1, CONTEXT);
-        both(Types.type(2, 0, Types.P2, 0), 1, CONTEXT);
-        both(Types.type(2, 0, 0, Types.P2), 1, CONTEXT);
     }
 
     private static void outside() {
+        CHECK.says("In checked mode only: E_WELLFORMED unless outside(oi, o0) holds for i = 1..k.");
         for (int a = 0; a <= 4; a++) {
             for (int b = 0; b <= 4; b++) {
                 int due = OUTSIDE[a].charAt(b) == '1' ? OK : WELLFORMED;
@@ -141,12 +208,24 @@ public final class Promise07TypesTest {
         valid(Types.type(1, Types.P1, Types.OWNER), 1, WELLFORMED, OK);
     }
 
+    /** Without formals there is no i, and so nothing that could lie inside the owner. */
+    private static void noArguments() {
+        CHECK.says("E_WELLFORMED unless outside(oi, o0) holds for i = 1..k.");
+        for (int owner = 0; owner <= 4; owner++) {
+            both(Types.type(0, owner), 2, OK);
+        }
+    }
+
     private static void order() {
+        CHECK.says("applies these tests in this order. The first failing test gives the result.");
         both(Types.type(0, Types.REP, 1), MAIN, BADTYPE);
         both(Types.type(2, Types.P1, Types.P2, 5), 0, BADTYPE);
         both(Types.type(2, 5, Types.P1, Types.P2), 0, BADTYPE);
+        both(Types.type(1, Types.P2, Types.REP, 1), 0, BADTYPE);
         both(Types.type(2, Types.WORLD, Types.REP, Types.P2), 1, CONTEXT);
         both(Types.type(2, Types.P1, Types.REP, Types.REP), 0, CONTEXT);
+        both(Types.type(1, Types.WORLD, Types.REP), MAIN, CONTEXT);
+        both(Types.type(1, Types.REP, Types.OWNER), MAIN, CONTEXT);
         valid(Types.type(2, Types.WORLD, Types.REP, Types.OWNER), 0, WELLFORMED, OK);
     }
 }

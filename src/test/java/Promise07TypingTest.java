@@ -12,6 +12,7 @@ public final class Promise07TypingTest {
     private static final int LOAD = OwnerDominance.OP_LOAD;
     private static final int STORE = OwnerDominance.OP_STORE;
     private static final int CALL = OwnerDominance.OP_CALL;
+    private static final int NULL = OwnerDominance.OP_NULL;
     private static final int RETURN = OwnerDominance.OP_RETURN;
     private static final int MAIN = OwnerDominance.BODY_MAIN;
 
@@ -34,6 +35,13 @@ public final class Promise07TypingTest {
         stores();
         calls();
         returns();
+        nulls();
+        matches();
+        thisIsTheSecondArgument();
+        errorOfSubstitution();
+        uncheckedMode();
+        fieldsToLoad();
+        fieldsToStore();
         CHECK.end();
     }
 
@@ -107,6 +115,7 @@ public final class Promise07TypingTest {
     }
 
     private static void news() {
+        CHECK.says("NEW: VALID(b, K), then MATCH(b, decl(a)).");
         in(2);
         let(2, b(REP, P2));
         stmt(NEW, 2, b(REP, P2), OK, OK);
@@ -127,6 +136,7 @@ public final class Promise07TypingTest {
     }
 
     private static void moves() {
+        CHECK.says("MOVE: MATCH(decl(b), decl(a)).");
         in(2);
         let(2, b(REP, P2));
         let(3, b(REP, P2));
@@ -152,6 +162,7 @@ public final class Promise07TypingTest {
     }
 
     private static void loadsThroughThis() {
+        CHECK.says("A_REP -> A_REP if K is a class and y == 0.");
         in(0);
         load(0, 0, a(REP), OK, OK);
         load(0, 0, a(OWNER), MISMATCH, OK);
@@ -172,6 +183,7 @@ public final class Promise07TypingTest {
     }
 
     private static void loadsThroughOthers() {
+        CHECK.says("A_OWNER -> r0; A_P1 -> r1; A_P2 -> r2;");
         in(2);
         let(2, b(REP, P2));
         load(2, 0, a(P2), OK, OK);
@@ -206,6 +218,7 @@ public final class Promise07TypingTest {
     }
 
     private static void loadsInMain() {
+        CHECK.says("A_REP -> A_REP if K is a class and y == 0. Otherwise it gives E_REP in checked mode");
         in(MAIN);
         load(0, 0, a(WORLD), ESCAPES, OK);
         load(0, 1, a(WORLD), OK, OK);
@@ -226,6 +239,7 @@ public final class Promise07TypingTest {
     }
 
     private static void stores() {
+        CHECK.says("STORE: .. Then MATCH(SUBST(fieldType(D,q), a), decl(y)).");
         in(2);
         let(2, b(REP, P2));
         let(3, a(P2));
@@ -266,6 +280,8 @@ public final class Promise07TypingTest {
     }
 
     private static void calls() {
+        CHECK.says("CALL: let D = cls of decl(y). First MATCH(SUBST(param(D), y), decl(q)),"
+                + " then MATCH(SUBST(ret(D), y), decl(a)).");
         in(2);
         let(2, b(REP, P2));
         call(2, a(P2), b(REP, P2), OK, OK);
@@ -308,6 +324,7 @@ public final class Promise07TypingTest {
     }
 
     private static void returns() {
+        CHECK.says("RETURN: MATCH(decl(a), ret(K)).");
         in(0);
         let(2, a(REP));
         stmt(RETURN, 2, 0, OK, OK);
@@ -322,5 +339,156 @@ public final class Promise07TypingTest {
         in(2);
         let(7, a(P1));
         stmt(RETURN, 7, 0, OK, OK);
+    }
+
+    private static void nulls() {
+        CHECK.says("NULL: nothing.");
+        int[] types = {a(REP), b(OWNER, P2), c(P1, P1, WORLD), d(WORLD)};
+        in(2);
+        for (int type : types) {
+            let(2, type);
+            stmt(NULL, 2, 0, OK, OK);
+        }
+    }
+
+    /** Every slot counts in checked mode, and no slot in unchecked mode. */
+    private static void matches() {
+        CHECK.says("In checked mode it succeeds iff s == t. In unchecked mode it succeeds iff (s&15) == (t&15)."
+                + " Otherwise the result is E_MISMATCH.");
+        in(2);
+        int type = c(REP, OWNER, OWNER);
+        let(2, type);
+        int[] sameClass = {c(OWNER, OWNER, OWNER), c(REP, P1, OWNER), c(REP, OWNER, P2), c(REP, WORLD, WORLD)};
+        for (int other : sameClass) {
+            let(3, other);
+            stmt(MOVE, 2, 3, MISMATCH, OK);
+            stmt(MOVE, 3, 2, MISMATCH, OK);
+            stmt(NEW, 2, other, MISMATCH, OK);
+        }
+        int[] otherClass = {a(REP), b(REP, OWNER), d(REP)};
+        for (int other : otherClass) {
+            let(3, other);
+            stmt(MOVE, 2, 3, MISMATCH, MISMATCH);
+            stmt(MOVE, 3, 2, MISMATCH, MISMATCH);
+            stmt(NEW, 2, other, MISMATCH, MISMATCH);
+        }
+        let(3, type);
+        stmt(MOVE, 2, 3, OK, OK);
+        stmt(NEW, 2, type, OK, OK);
+    }
+
+    /** Field 0 of A is owned by its object: it can be stored into through this, whatever the value's variable. */
+    private static void thisIsTheSecondArgument() {
+        CHECK.says("Here y is the second argument of SUBST, not b % 8; for STORE it is a.");
+        in(0);
+        for (int v = 1; v < 8; v++) {
+            if (v > 1) {
+                let(v, a(REP));
+                stmt(STORE, 0, v, OK, OK);
+                stmt(LOAD, v, 0, OK, OK);
+            }
+            stmt(STORE, v, 0, ESCAPES, OK);
+            stmt(LOAD, 7, v, ESCAPES, OK);
+        }
+        stmt(STORE, 0, 0, MISMATCH, OK);
+        in(MAIN);
+        for (int v = 0; v < 8; v++) {
+            stmt(STORE, 0, v, ESCAPES, OK);
+            stmt(STORE, v, 0, ESCAPES, OK);
+            stmt(LOAD, v, 0, ESCAPES, OK);
+            stmt(LOAD, 0, v, ESCAPES, OK);
+        }
+    }
+
+    private static void errorOfSubstitution() {
+        CHECK.says("When a SUBST gives E_REP, that is the error.");
+        in(2);
+        let(2, b(REP, P2));
+        let(3, d(REP));
+        stmt(LOAD, 3, 8 * 2 + 2, ESCAPES, MISMATCH);
+        stmt(LOAD, 3, 8 * 3 + 2, ESCAPES, MISMATCH);
+        stmt(STORE, 2, 8 * 2 + 3, ESCAPES, MISMATCH);
+        stmt(STORE, 2, 8 * 3 + 3, ESCAPES, MISMATCH);
+        let(4, d(OWNER));
+        stmt(CALL, 3, 8 * 2 + 4, ESCAPES, MISMATCH);
+    }
+
+    private static void uncheckedMode() {
+        CHECK.says("In unchecked mode MATCH compares only class ids, and E_WELLFORMED and E_REP never arise;"
+                + " all other tests still apply.");
+        in(2);
+        let(2, b(P1, OWNER));
+        stmtWithLocalError(WELLFORMED, 2 * 32 + 10);
+        let(2, b(REP, P2));
+        let(3, a(WORLD));
+        stmt(LOAD, 3, 8 * 2 + 2, ESCAPES, OK);
+        stmt(LOAD, 3, 8 * 4 + 2, BADOPERAND, BADOPERAND);
+        stmt(LOAD, 0, 8 * 2 + 2, BADOPERAND, BADOPERAND);
+        stmt(LOAD, 8, 8 * 2 + 2, BADOPERAND, BADOPERAND);
+        stmt(NEW, 3, 4, OwnerDominance.E_BADTYPE, OwnerDominance.E_BADTYPE);
+        stmt(NEW, 3, b(WORLD, WORLD), MISMATCH, MISMATCH);
+        in(0);
+        stmt(NEW, 2, a(P1), CONTEXT, CONTEXT);
+    }
+
+    /** A program whose local is told in checked mode, and nothing in unchecked mode. */
+    private static void stmtWithLocalError(int checked, int at) {
+        int[] due = {OK, checked};
+        for (int mode = 0; mode <= 1; mode++) {
+            OwnerDominance x = classes();
+            x.setLocal(body, 2, LOCALS[2]);
+            CHECK.due("compile(" + mode + ")", x.compile(mode), due[mode]);
+            CHECK.due("getErrorAt()", x.getErrorAt(), due[mode] == OK ? -1 : at);
+        }
+    }
+
+    private static void fieldsToLoad() {
+        CHECK.says("LOAD: let D = cls of decl(y). If q >= fieldCount(D), E_BADOPERAND.");
+        for (int count = 0; count <= 4; count++) {
+            for (int q = 0; q <= 7; q++) {
+                int due = q < count ? OK : BADOPERAND;
+                fieldOf(MAIN, LOAD, 7, 8 * q + count, due);
+                fieldOf(5, LOAD, 7, 8 * q + 2 + count, due);
+            }
+        }
+        // The missing field is told before the type, which would not match either.
+        fieldOf(MAIN, LOAD, 1, 8 * 2 + 2, BADOPERAND);
+        fieldOf(MAIN, LOAD, 1, 8 * 1 + 2, MISMATCH);
+    }
+
+    private static void fieldsToStore() {
+        CHECK.says("STORE: let D = cls of decl(a). If q >= fieldCount(D), E_BADOPERAND.");
+        for (int count = 0; count <= 4; count++) {
+            for (int q = 0; q <= 7; q++) {
+                int due = q < count ? OK : BADOPERAND;
+                fieldOf(MAIN, STORE, count, 8 * q + 7, due);
+                fieldOf(5, STORE, 2 + count, 8 * q + 7, due);
+            }
+        }
+        fieldOf(MAIN, STORE, 2, 8 * 2 + 1, BADOPERAND);
+        fieldOf(MAIN, STORE, 2, 8 * 1 + 1, MISMATCH);
+    }
+
+    /** Class c has c fields, c = 0..4, and is the class of main's vc and of class 5's v(2+c). v7 can hold a field. */
+    private static void fieldOf(int where, int op, int a, int b, int due) {
+        for (int mode = 0; mode <= 1; mode++) {
+            OwnerDominance x = new OwnerDominance(8);
+            for (int c = 0; c < 6; c++) {
+                x.addClass(0);
+                for (int f = 0; f < c && f < 4; f++) {
+                    x.addField(c, 5);
+                }
+            }
+            for (int c = 0; c < 5; c++) {
+                x.setLocal(MAIN, c, c);
+                x.setLocal(5, 2 + c, c);
+            }
+            x.setLocal(MAIN, 7, 5);
+            x.setLocal(5, 7, 5);
+            x.addStmt(where, op, a, b);
+            String what = "body " + where + ", (" + op + ", " + a + ", " + b + ")";
+            CHECK.due(what + ": compile(" + mode + ")", x.compile(mode), due);
+            CHECK.due(what + ": getErrorAt()", x.getErrorAt(), due == OK ? -1 : where * 32 + 16);
+        }
     }
 }
