@@ -26,6 +26,10 @@ public final class Promise08DominanceTest {
         insideAChain();
         outsideAChain();
         ownedObjectsMayMeet();
+        throughANewObject();
+        everyLocalOfMain();
+        nullIsNoReference();
+        theObjectItself();
         CHECK.end();
     }
 
@@ -58,6 +62,7 @@ public final class Promise08DominanceTest {
     }
 
     private static void inMain() {
+        CHECK.says("If it fails, the status becomes ST_VIOLATION, and the step's changes stay.");
         OwnerDominance x = program();
         x.setSignature(1, 0, REP);
         x.addStmt(1, NEW, 2, REP);
@@ -74,6 +79,7 @@ public final class Promise08DominanceTest {
     }
 
     private static void mainByLoad() {
+        CHECK.says("for every local b >= 0 of main, W0(b) == -1;");
         for (int v = 0; v <= 5; v++) {
             OwnerDominance x = program();
             x.addStmt(1, NEW, 2, REP);
@@ -91,6 +97,7 @@ public final class Promise08DominanceTest {
 
     /** An object puts one that it owns into a field of another, which stands beside it and is older or younger. */
     private static void throughAField() {
+        CHECK.says("for every object a and every field value b >= 0 of a, inside(a, W0(b));");
         for (int owner = 0; owner <= 1; owner++) {
             int other = 1 - owner;
             OwnerDominance x = program();
@@ -109,6 +116,7 @@ public final class Promise08DominanceTest {
     }
 
     private static void throughEveryField() {
+        CHECK.says("for every object a and every field value b >= 0 of a, inside(a, W0(b));");
         for (int f = 0; f < 4; f++) {
             OwnerDominance x = program();
             x.addStmt(1, NEW, 2, REP);
@@ -126,6 +134,7 @@ public final class Promise08DominanceTest {
 
     /** Object 0 hands an object that it owns to a method of object 1. */
     private static void throughAnArgument() {
+        CHECK.says("for every local b >= 0 of a frame with receiver r >= 0, inside(r, W0(b)).");
         OwnerDominance x = program();
         x.addStmt(1, NEW, 2, REP);
         x.addStmt(1, CALL, 3, 8 * 2 + 1);
@@ -141,6 +150,7 @@ public final class Promise08DominanceTest {
 
     /** Object 0 owns object 2, and object 1 reads it out of object 0's field into each of its locals. */
     private static void throughALoad() {
+        CHECK.says("for every local b >= 0 of a frame with receiver r >= 0, inside(r, W0(b)).");
         for (int v = 1; v < 7; v++) {
             OwnerDominance x = program();
             x.addClass(0);
@@ -166,6 +176,7 @@ public final class Promise08DominanceTest {
 
     /** Object 0 calls object 1, which answers an object that it owns. */
     private static void throughAResult() {
+        CHECK.says("for every local b >= 0 of a frame with receiver r >= 0, inside(r, W0(b)).");
         OwnerDominance x = program();
         x.setSignature(0, 0, REP);
         x.addStmt(0, NEW, 2, REP);
@@ -182,6 +193,7 @@ public final class Promise08DominanceTest {
     }
 
     private static void violationComesBeforeDone() {
+        CHECK.says("After each step that leaves the status at ST_RUNNING, if FINISHED, the status becomes ST_DONE");
         OwnerDominance x = program();
         x.addStmt(1, NEW, 2, REP);
         x.addStmt(1, STORE, 0, 2);
@@ -197,6 +209,7 @@ public final class Promise08DominanceTest {
 
     /** Object 0 owns 1 and 2, 2 owns 3, 3 owns 4, and so on: each of them may refer to object 1. */
     private static void insideAChain() {
+        CHECK.says("Otherwise it is true iff o is among x, W0(x), W0(W0(x)), and so on, followed until -1.");
         OwnerDominance x = program();
         x.addStmt(0, NEW, 2, REP);
         x.addStmt(0, STORE, 0, 8 * 2 + 1);
@@ -223,6 +236,7 @@ public final class Promise08DominanceTest {
 
     /** Object 0 owns object 1, and so stands outside it: it may not see what object 1 owns. */
     private static void outsideAChain() {
+        CHECK.says("Otherwise it is true iff o is among x, W0(x), W0(W0(x)), and so on, followed until -1.");
         OwnerDominance x = program();
         x.addClass(0);
         x.addField(2, 0);
@@ -246,6 +260,7 @@ public final class Promise08DominanceTest {
 
     /** Siblings of one owner may refer to each other, and everyone to what the world owns. */
     private static void ownedObjectsMayMeet() {
+        CHECK.says("is true if o == -1.");
         OwnerDominance x = program();
         x.addStmt(1, NEW, 2, REP);
         x.addStmt(1, NEW, 3, REP);
@@ -269,5 +284,98 @@ public final class Promise08DominanceTest {
                 + "\n object 2: 0 0 -1 -1 3 -1 -1 -1"
                 + "\n object 3: 0 0 -1 -1 -1 2 3 1"
                 + "\n frame 0: 8 3 -1 -1 1 -1 1 -1 -1 -1 0 -1");
+    }
+
+    /** Object 0 makes object 1 beside itself, with itself as the argument; object 1 then makes what 0 owns. */
+    private static void throughANewObject() {
+        CHECK.says("After every step that did not set ST_NULL, ST_DEPTH or ST_HEAPFULL, DOMINANCE (below) is tested.");
+        for (int formal = 1; formal <= 2; formal++) {
+            OwnerDominance x = program();
+            x.addClass(2);
+            int maker = formal == 1 ? Types.type(2, Types.WORLD, Types.REP, Types.WORLD)
+                    : Types.type(2, Types.WORLD, Types.WORLD, Types.REP);
+            int made = Types.type(0, formal == 1 ? Types.P1 : Types.P2);
+            x.setLocal(1, 2, maker);
+            x.addStmt(1, NEW, 2, maker);
+            x.addStmt(1, CALL, 3, 8 * 3 + 2);
+            x.addStmt(2, NEW, 4, made);
+            x.addStmt(2, NULL, 4, 0);
+            x.addStmt(MAIN, NEW, 6, 1);
+            x.addStmt(MAIN, CALL, 5, 8 * 0 + 6);
+            compile(x);
+            violates(x, 4);
+            CHECK.due("the new object's owner", x.getObject(2, 1), 0);
+            CHECK.due("the local", x.getFrame(2, 8), 2);
+            CHECK.due("pc", x.getFrame(2, 1), 1);
+        }
+    }
+
+    /** Main's keeper is in another variable than the one that reads what it owns, or in the same one. */
+    private static void everyLocalOfMain() {
+        CHECK.says("for every local b >= 0 of main, W0(b) == -1; .. for every local");
+        for (int keeper = 0; keeper < 8; keeper++) {
+            for (int v = 0; v < 8; v++) {
+                OwnerDominance x = new OwnerDominance(8);
+                x.addClass(0);
+                x.addField(0, 0);
+                x.addStmt(0, NEW, 2, REP);
+                x.addStmt(0, STORE, 0, 2);
+                x.addStmt(MAIN, NEW, keeper, 0);
+                x.addStmt(MAIN, CALL, (keeper + 1) % 8, 8 * ((keeper + 1) % 8) + keeper);
+                x.addStmt(MAIN, LOAD, v, keeper);
+                x.addStmt(MAIN, NULL, v, 0);
+                compile(x);
+                violates(x, 5);
+                CHECK.due("v" + v, x.getFrame(0, 4 + v), 1);
+                CHECK.due("pc", x.getFrame(0, 1), 3);
+            }
+        }
+    }
+
+    private static void nullIsNoReference() {
+        CHECK.says("every field value b >= 0 of a .. for every local b >= 0 of main");
+        OwnerDominance x = program();
+        x.addStmt(1, NEW, 2, REP);
+        x.addStmt(1, STORE, 0, 2);
+        x.addStmt(1, NULL, 2, 0);
+        x.addStmt(1, STORE, 1, 8 * 3 + 2);
+        x.addStmt(1, STORE, 0, 2);
+        x.addStmt(1, RETURN, 2, 0);
+        x.addStmt(MAIN, NEW, 6, 1);
+        x.addStmt(MAIN, NEW, 0, 0);
+        x.addStmt(MAIN, CALL, 2, 8 * 0 + 6);
+        x.addStmt(MAIN, LOAD, 3, 6);
+        compile(x);
+        CHECK.due("run(16)", x.run(16), DONE);
+        CHECK.due("v2", x.getFrame(0, 6), -1);
+        CHECK.due("v3", x.getFrame(0, 7), -1);
+        CHECK.due("the owned object is still there", x.getObject(2, 1), 0);
+    }
+
+    /** An owner may hold what it owns, in every field and every local. */
+    private static void theObjectItself() {
+        CHECK.says("o is among x");
+        OwnerDominance x = program();
+        for (int v = 1; v < 7; v++) {
+            x.addStmt(1, NEW, v, REP);
+        }
+        for (int f = 0; f < 4; f++) {
+            x.addStmt(1, STORE, 0, 8 * f + 2 + f);
+        }
+        x.addStmt(MAIN, NEW, 6, 1);
+        x.addStmt(MAIN, CALL, 2, 8 * 0 + 6);
+        compile(x);
+        CHECK.due("run(12)", x.run(12), RUNNING);
+        CHECK.same("the heap", Snapshot.machine(x), "machine"
+                + "\n object 0: 1 -1 -1 -1 2 3 4 5"
+                + "\n object 1: 0 0 -1 -1 -1 -1 -1 -1"
+                + "\n object 2: 0 0 -1 -1 -1 -1 -1 -1"
+                + "\n object 3: 0 0 -1 -1 -1 -1 -1 -1"
+                + "\n object 4: 0 0 -1 -1 -1 -1 -1 -1"
+                + "\n object 5: 0 0 -1 -1 -1 -1 -1 -1"
+                + "\n object 6: 0 0 -1 -1 -1 -1 -1 -1"
+                + "\n frame 0: 8 2 -1 -1 -1 -1 -1 -1 -1 -1 0 -1"
+                + "\n frame 1: 1 10 0 2 0 1 2 3 4 5 6 -1");
+        CHECK.due("run(1)", x.run(1), DONE);
     }
 }

@@ -5,14 +5,23 @@ public final class Promise10Test {
     private static final Check CHECK = new Check();
 
     public static void main(String[] args) {
+        everyStatus();
+        followsEveryCall();
+        changesNothing();
+        CHECK.end();
+    }
+
+    private static void everyStatus() {
+        CHECK.says("`getStatus()` answers the current status");
         List<OwnerDominance> objects = Frozen.all();
         for (int i = 0; i < objects.size(); i++) {
-            OwnerDominance x = objects.get(i);
-            String before = Snapshot.of(x);
-            CHECK.due("getStatus()", x.getStatus(), i + 1);
-            CHECK.due("getStatus() again", x.getStatus(), i + 1);
-            CHECK.same("after getStatus()", Snapshot.of(x), before);
+            CHECK.due("getStatus()", objects.get(i).getStatus(), i + 1);
         }
+        CHECK.due("getStatus()", new OwnerDominance(8).getStatus(), 0);
+    }
+
+    private static void followsEveryCall() {
+        CHECK.says("the current status");
         OwnerDominance x = new OwnerDominance(8);
         CHECK.due("getStatus()", x.getStatus(), 0);
         x.compile(1);
@@ -21,6 +30,9 @@ public final class Promise10Test {
         CHECK.due("getStatus() after an edit", x.getStatus(), 0);
         x.compile(2);
         CHECK.due("getStatus() after a refused compile", x.getStatus(), 0);
+        x.run(1);
+        x.restart();
+        CHECK.due("getStatus() after a refused run and restart", x.getStatus(), 0);
         x.compile(1);
         CHECK.due("getStatus() after compile", x.getStatus(), 1);
         x.run(0);
@@ -29,6 +41,17 @@ public final class Promise10Test {
         CHECK.due("getStatus() at the end", x.getStatus(), 2);
         x.restart();
         CHECK.due("getStatus() after restart", x.getStatus(), 1);
-        CHECK.end();
+    }
+
+    private static void changesNothing() {
+        CHECK.says("`getStatus()` answers the current status and changes nothing.");
+        List<OwnerDominance> objects = Frozen.all();
+        objects.add(new OwnerDominance(8));
+        for (OwnerDominance x : objects) {
+            String before = Snapshot.of(x);
+            int status = x.getStatus();
+            CHECK.due("getStatus() again", x.getStatus(), status);
+            CHECK.same("after getStatus()", Snapshot.of(x), before);
+        }
     }
 }
