@@ -106,7 +106,7 @@ public final class Promise06Test {
     }
 
     private static void anyNumbersAreStored() {
-        CHECK.says("Otherwise it appends (op, a, b) exactly as given, for any int values .. (0..15)");
+        CHECK.says("Otherwise it appends (op, a, b) exactly as given, for any int values");
         for (int first : Ints.ANY) {
             for (int second : Ints.ANY) {
                 OwnerDominance x = new OwnerDominance(8);

@@ -17,7 +17,12 @@ public final class Promise07TypesTest {
         unusedSlots();
         contextOfMain();
         contextOfAClass();
-        outside();
+        outsideItself();
+        worldOutside();
+        outsideRep();
+        outsideOwner();
+        formalsAreNotOutsideEachOther();
+        wellFormed();
         noArguments();
         order();
         CHECK.end();
@@ -191,14 +196,59 @@ public final class Promise07TypesTest {
         }
     }
 
-    private static void outside() {
+    private static void outsideItself() {
+        CHECK.says("**outside(a,b)** holds iff any of these is true: a == b;");
+        for (int atom = 0; atom <= 4; atom++) {
+            arguments(atom, atom, OK);
+        }
+    }
+
+    private static void worldOutside() {
+        CHECK.says("**outside(a,b)** holds iff any of these is true: .. a == A_WORLD;");
+        for (int atom = 0; atom <= 4; atom++) {
+            arguments(Types.WORLD, atom, OK);
+            arguments(atom, Types.WORLD, atom == Types.WORLD ? OK : WELLFORMED);
+        }
+    }
+
+    private static void outsideRep() {
+        CHECK.says("b == A_REP and a is A_OWNER, A_P1 or A_P2;");
+        int[] others = {Types.OWNER, Types.P1, Types.P2};
+        for (int atom : others) {
+            arguments(atom, Types.REP, OK);
+            arguments(Types.REP, atom, WELLFORMED);
+        }
+    }
+
+    private static void outsideOwner() {
+        CHECK.says("b == A_OWNER and a is A_P1 or A_P2.");
+        int[] formals = {Types.P1, Types.P2};
+        for (int atom : formals) {
+            arguments(atom, Types.OWNER, OK);
+            arguments(Types.OWNER, atom, WELLFORMED);
+        }
+        arguments(Types.REP, Types.OWNER, WELLFORMED);
+    }
+
+    private static void formalsAreNotOutsideEachOther() {
+        CHECK.says("**outside(a,b)** holds iff any of these is true:");
+        arguments(Types.P1, Types.P2, WELLFORMED);
+        arguments(Types.P2, Types.P1, WELLFORMED);
+    }
+
+    /** The argument a with the owner b, in class 2, which knows every atom. */
+    private static void arguments(int a, int b, int due) {
+        valid(Types.type(1, b, a), 2, due, OK);
+        valid(Types.type(2, b, a, Types.WORLD), 2, due, OK);
+        valid(Types.type(2, b, Types.WORLD, a), 2, due, OK);
+    }
+
+    /** Both arguments are tested: one that is fine doesn't help the other. */
+    private static void wellFormed() {
         CHECK.says("In checked mode only: E_WELLFORMED unless outside(oi, o0) holds for i = 1..k.");
         for (int a = 0; a <= 4; a++) {
             for (int b = 0; b <= 4; b++) {
                 int due = OUTSIDE[a].charAt(b) == '1' ? OK : WELLFORMED;
-                valid(Types.type(1, b, a), 2, due, OK);
-                valid(Types.type(2, b, a, 0), 2, due, OK);
-                valid(Types.type(2, b, 0, a), 2, due, OK);
                 valid(Types.type(2, b, b, a), 2, due, OK);
                 valid(Types.type(2, b, a, b), 2, due, OK);
             }

@@ -38,6 +38,7 @@ public final class Promise07TypingTest {
         nulls();
         matches();
         thisIsTheSecondArgument();
+        unusedSlotsStay();
         errorOfSubstitution();
         uncheckedMode();
         fieldsToLoad();
@@ -398,6 +399,19 @@ public final class Promise07TypingTest {
             stmt(LOAD, v, 0, ESCAPES, OK);
             stmt(LOAD, 0, v, ESCAPES, OK);
         }
+    }
+
+    /** What the receiver has in r1 and r2 doesn't show in a type that has no such slot. */
+    private static void unusedSlotsStay() {
+        CHECK.says("Unused slots stay 0.");
+        in(2);
+        let(2, c(OWNER, P1, P2));
+        load(2, 0, a(P2), OK, OK);
+        let(2, c(P2, P2, P2));
+        load(2, 0, a(P2), OK, OK);
+        let(2, b(P2, P2));
+        load(2, 0, a(P2), OK, OK);
+        load(2, 1, b(P2, P2), OK, OK);
     }
 
     private static void errorOfSubstitution() {

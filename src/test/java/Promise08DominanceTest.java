@@ -62,7 +62,8 @@ public final class Promise08DominanceTest {
     }
 
     private static void inMain() {
-        CHECK.says("If it fails, the status becomes ST_VIOLATION, and the step's changes stay.");
+        CHECK.says("A failure stops the machine with a violation status. .. If it fails, the status becomes ST_VIOLATION,"
+                + " and the step's changes stay.");
         OwnerDominance x = program();
         x.setSignature(1, 0, REP);
         x.addStmt(1, NEW, 2, REP);
@@ -312,7 +313,7 @@ public final class Promise08DominanceTest {
 
     /** Main's keeper is in another variable than the one that reads what it owns, or in the same one. */
     private static void everyLocalOfMain() {
-        CHECK.says("for every local b >= 0 of main, W0(b) == -1; .. for every local");
+        CHECK.says("for every local b >= 0 of main, W0(b) == -1;");
         for (int keeper = 0; keeper < 8; keeper++) {
             for (int v = 0; v < 8; v++) {
                 OwnerDominance x = new OwnerDominance(8);

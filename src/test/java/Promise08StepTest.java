@@ -360,7 +360,7 @@ public final class Promise08StepTest {
 
     /** The method runs off its end after 0 to 16 statements, and what it returns into was not null. */
     private static void endOfAnyBody() {
-        CHECK.says("A class body with pc >= its statement count acts as RETURN of null. .. NEW");
+        CHECK.says("A class body with pc >= its statement count acts as RETURN of null.");
         for (int size = 0; size <= 16; size++) {
             OwnerDominance x = new OwnerDominance(8);
             x.addClass(0);

@@ -10,6 +10,7 @@ public final class Promise13Test {
         itemsOfMain();
         noSuchItem();
         neverSet();
+        thisAndParam();
         selfTypes();
         everyStatus();
         changesNothing();
@@ -142,6 +143,17 @@ public final class Promise13Test {
         }
         for (int v = 0; v < 8; v++) {
             item(x, MAIN, 8 + v, 0);
+        }
+    }
+
+    private static void thisAndParam() {
+        CHECK.says("In a class body c, decl(v0) = self(c) (v0 is `this`) and decl(v1) = param(c).");
+        OwnerDominance x = fullProgram();
+        for (int c = 0; c < 8; c++) {
+            item(x, c, 9, x.getDecl(c, 4));
+            x.setSignature(c, 77, 78);
+            item(x, c, 9, 77);
+            item(x, c, 8, new int[] {0x10, 0x311, 0x4312, 0x13, 0x314, 0x4315, 0x16, 0x317}[c]);
         }
     }
 
