@@ -15,14 +15,6 @@ public final class Promise03Test {
         CHECK.end();
     }
 
-    private static OwnerDominance classes(int count) {
-        OwnerDominance x = new OwnerDominance(8);
-        for (int id = 0; id < count; id++) {
-            x.addClass(id % 3);
-        }
-        return x;
-    }
-
     private static void refusedWhenFrozen() {
         CHECK.says(REFUSED + "status != ST_EDIT");
         for (OwnerDominance x : Frozen.all()) {
@@ -35,7 +27,7 @@ public final class Promise03Test {
     private static void refusedClass() {
         CHECK.says(REFUSED + "cls is not in 0..classCount-1");
         for (int classes = 0; classes <= 8; classes++) {
-            OwnerDominance x = classes(classes);
+            OwnerDominance x = Programs.classes(classes);
             String before = Snapshot.of(x);
             for (int cls : Ints.notIn(0, classes - 1)) {
                 CHECK.due("addField(" + cls + ", 5) of " + classes, x.addField(cls, 5), -1);
@@ -44,7 +36,7 @@ public final class Promise03Test {
             if (classes > 0) {
                 CHECK.due("addField of the last class", x.addField(classes - 1, 5), 0);
             }
-            OwnerDominance twin = classes(classes);
+            OwnerDominance twin = Programs.classes(classes);
             twin.addField(classes - 1, 5);
             CHECK.same("with eight classes", Snapshot.withEightClasses(x), Snapshot.withEightClasses(twin));
         }
@@ -52,7 +44,7 @@ public final class Promise03Test {
 
     private static void refusedWhenFull() {
         CHECK.says(REFUSED + "cls already has 4 fields");
-        OwnerDominance x = classes(8);
+        OwnerDominance x = Programs.classes(8);
         for (int f = 0; f < 4; f++) {
             for (int c = 7; c >= 0; c--) {
                 CHECK.due("addField(" + c + ", ..)", x.addField(c, 100 * c + f), f);
@@ -71,7 +63,7 @@ public final class Promise03Test {
         CHECK.says("Otherwise it appends a field of type word `type` to cls and answers its index,"
                 + " which is the old fieldCount (0..3).");
         for (int cls = 0; cls < 8; cls++) {
-            OwnerDominance x = classes(8);
+            OwnerDominance x = Programs.classes(8);
             for (int f = 0; f < 4; f++) {
                 CHECK.due("fieldCount before", x.getDecl(cls, 7), f);
                 CHECK.due("the field before", x.getDecl(cls, f), -2);
@@ -88,7 +80,7 @@ public final class Promise03Test {
     private static void anyTypeIsStored() {
         CHECK.says("The type is stored exactly as given, for any int value");
         for (int type : Ints.ANY) {
-            OwnerDominance x = classes(1);
+            OwnerDominance x = Programs.classes(1);
             for (int f = 0; f < 4; f++) {
                 CHECK.due("addField(0, " + type + ")", x.addField(0, type), f);
                 CHECK.due("getDecl(0, " + f + ")", x.getDecl(0, f), type);
@@ -99,7 +91,7 @@ public final class Promise03Test {
     private static void compileChecksIt() {
         CHECK.says("The type is stored exactly as given, for any int value; `compile` checks it.");
         for (int type : Ints.ANY) {
-            OwnerDominance x = classes(1);
+            OwnerDominance x = Programs.classes(1);
             x.addField(0, 0);
             x.addField(0, type);
             boolean good = type == 0 || type == 16;
@@ -111,7 +103,7 @@ public final class Promise03Test {
     private static void othersStay() {
         CHECK.says("`addField(cls, type)` .. Nothing else changes.");
         for (int cls = 0; cls < 8; cls++) {
-            OwnerDominance x = classes(8);
+            OwnerDominance x = Programs.classes(8);
             for (int body = 0; body <= 8; body++) {
                 x.setLocal(body, 3, 30 + body);
                 x.setSignature(body, 40 + body, 50 + body);

@@ -14,14 +14,6 @@ public final class Promise04Test {
         CHECK.end();
     }
 
-    private static OwnerDominance classes(int count) {
-        OwnerDominance x = new OwnerDominance(8);
-        for (int id = 0; id < count; id++) {
-            x.addClass(id % 3);
-        }
-        return x;
-    }
-
     private static void refusedWhenFrozen() {
         CHECK.says(REFUSED + "status != ST_EDIT");
         for (OwnerDominance x : Frozen.all()) {
@@ -34,7 +26,7 @@ public final class Promise04Test {
     private static void refusedClass() {
         CHECK.says(REFUSED + "cls is not in 0..classCount-1");
         for (int classes = 0; classes <= 8; classes++) {
-            OwnerDominance x = classes(classes);
+            OwnerDominance x = Programs.classes(classes);
             String before = Snapshot.of(x);
             for (int cls : Ints.notIn(0, classes - 1)) {
                 CHECK.due("setSignature(" + cls + ", 5, 6) of " + classes, x.setSignature(cls, 5, 6), false);
@@ -43,7 +35,7 @@ public final class Promise04Test {
             if (classes > 0) {
                 CHECK.due("setSignature of the last class", x.setSignature(classes - 1, 7, 8), true);
             }
-            OwnerDominance twin = classes(classes);
+            OwnerDominance twin = Programs.classes(classes);
             twin.setSignature(classes - 1, 7, 8);
             CHECK.same("with eight classes", Snapshot.withEightClasses(x), Snapshot.withEightClasses(twin));
         }
@@ -52,7 +44,7 @@ public final class Promise04Test {
     private static void overwrites() {
         CHECK.says("Otherwise it sets param(cls) = paramType and ret(cls) = retType, overwriting earlier values,"
                 + " and answers true.");
-        OwnerDominance x = classes(8);
+        OwnerDominance x = Programs.classes(8);
         for (int round = 0; round < 3; round++) {
             for (int c = 7; c >= 0; c--) {
                 CHECK.due("setSignature(" + c + ", ..)", x.setSignature(c, 10 * round + c, 100 * round + c), true);
@@ -66,7 +58,7 @@ public final class Promise04Test {
 
     private static void anyTypesAreStored() {
         CHECK.says("Both are stored exactly as given for any int values.");
-        OwnerDominance x = classes(1);
+        OwnerDominance x = Programs.classes(1);
         for (int param : Ints.ANY) {
             for (int ret : Ints.ANY) {
                 CHECK.due("setSignature", x.setSignature(0, param, ret), true);
@@ -78,7 +70,7 @@ public final class Promise04Test {
 
     private static void firstLocalFollows() {
         CHECK.says("Because decl(v1) of the class body is param(cls), that local's declared type follows.");
-        OwnerDominance x = classes(8);
+        OwnerDominance x = Programs.classes(8);
         for (int param : Ints.ANY) {
             for (int c = 0; c < 8; c++) {
                 x.setSignature(c, param, 3);
@@ -91,7 +83,7 @@ public final class Promise04Test {
 
     /** m's v1 goes into a field that this object's owner owns. */
     private static void typedByParam(int param, int due) {
-        OwnerDominance x = classes(1);
+        OwnerDominance x = Programs.classes(1);
         x.addField(0, 0x10);
         x.setSignature(0, 0, 0);
         x.setSignature(0, param, 0);
@@ -102,7 +94,7 @@ public final class Promise04Test {
     private static void othersStay() {
         CHECK.says("`setSignature(cls, paramType, retType)` .. Nothing else changes.");
         for (int cls = 0; cls < 8; cls++) {
-            OwnerDominance x = classes(8);
+            OwnerDominance x = Programs.classes(8);
             for (int body = 0; body <= 8; body++) {
                 for (int v = 0; v < 8; v++) {
                     x.setLocal(body, v, 30 + body);

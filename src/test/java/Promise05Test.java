@@ -16,14 +16,6 @@ public final class Promise05Test {
         CHECK.end();
     }
 
-    private static OwnerDominance classes(int count) {
-        OwnerDominance x = new OwnerDominance(8);
-        for (int id = 0; id < count; id++) {
-            x.addClass(id % 3);
-        }
-        return x;
-    }
-
     private static void refusedWhenFrozen() {
         CHECK.says(REFUSED + "status != ST_EDIT");
         for (OwnerDominance x : Frozen.all()) {
@@ -39,8 +31,8 @@ public final class Promise05Test {
     private static void refusedBody() {
         CHECK.says("A body id is VALID if it is 8 or in 0..classCount-1. .. " + REFUSED + "body is not VALID");
         for (int classes = 0; classes <= 8; classes++) {
-            OwnerDominance x = classes(classes);
-            OwnerDominance twin = classes(classes);
+            OwnerDominance x = Programs.classes(classes);
+            OwnerDominance twin = Programs.classes(classes);
             String before = Snapshot.of(x);
             for (int body : Ints.notBodies(classes)) {
                 for (int v = 0; v < 8; v++) {
@@ -58,7 +50,7 @@ public final class Promise05Test {
 
     private static void refusedVariable() {
         CHECK.says(REFUSED + "v is not in 0..7");
-        OwnerDominance x = classes(8);
+        OwnerDominance x = Programs.classes(8);
         String before = Snapshot.of(x);
         for (int v : Ints.notIn(0, 7)) {
             for (int body = 0; body <= MAIN; body++) {
@@ -74,7 +66,7 @@ public final class Promise05Test {
 
     private static void refusedThisAndParam() {
         CHECK.says(REFUSED + "body is a class and v < 2");
-        OwnerDominance x = classes(8);
+        OwnerDominance x = Programs.classes(8);
         String before = Snapshot.of(x);
         for (int cls = 0; cls < 8; cls++) {
             CHECK.due("setLocal(" + cls + ", 0, 5)", x.setLocal(cls, 0, 5), false);
@@ -91,7 +83,7 @@ public final class Promise05Test {
     private static void setsAndOverwrites() {
         CHECK.says("Otherwise it sets decl(v) of that body to `type`, stored exactly as given and overwriting"
                 + " any earlier value, and answers true.");
-        OwnerDominance x = classes(1);
+        OwnerDominance x = Programs.classes(1);
         for (int type : Ints.ANY) {
             for (int v = 0; v < 8; v++) {
                 CHECK.due("setLocal(8, " + v + ", " + type + ")", x.setLocal(MAIN, v, type), true);
@@ -106,7 +98,7 @@ public final class Promise05Test {
 
     private static void everyLocalOfEveryBody() {
         CHECK.says("v2..v7 come from `setLocal`. In main, v0..v7 all come from `setLocal`.");
-        OwnerDominance x = classes(8);
+        OwnerDominance x = Programs.classes(8);
         for (int body = MAIN; body >= 0; body--) {
             for (int v = body == MAIN ? 0 : 2; v < 8; v++) {
                 CHECK.due("setLocal(" + body + ", " + v + ", ..)", x.setLocal(body, v, 10 * body + v), true);
@@ -128,7 +120,7 @@ public final class Promise05Test {
         CHECK.says("`setLocal(body, v, type)` .. Nothing else changes.");
         for (int body = 0; body <= MAIN; body++) {
             for (int v = body == MAIN ? 0 : 2; v < 8; v++) {
-                OwnerDominance x = classes(8);
+                OwnerDominance x = Programs.classes(8);
                 x.addField(0, -3);
                 x.setSignature(1, 4, 5);
                 x.addStmt(2, 6, 2, 0);

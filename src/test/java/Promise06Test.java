@@ -16,14 +16,6 @@ public final class Promise06Test {
         CHECK.end();
     }
 
-    private static OwnerDominance classes(int count) {
-        OwnerDominance x = new OwnerDominance(8);
-        for (int id = 0; id < count; id++) {
-            x.addClass(id % 3);
-        }
-        return x;
-    }
-
     private static void refusedWhenFrozen() {
         CHECK.says(REFUSED + "status != ST_EDIT");
         for (OwnerDominance x : Frozen.all()) {
@@ -37,8 +29,8 @@ public final class Promise06Test {
     private static void refusedBody() {
         CHECK.says("A body id is VALID if it is 8 or in 0..classCount-1. .. " + REFUSED + "body is not VALID");
         for (int classes = 0; classes <= 8; classes++) {
-            OwnerDominance x = classes(classes);
-            OwnerDominance twin = classes(classes);
+            OwnerDominance x = Programs.classes(classes);
+            OwnerDominance twin = Programs.classes(classes);
             String before = Snapshot.of(x);
             for (int body : Ints.notBodies(classes)) {
                 CHECK.due("addStmt(" + body + ", 6, 2, 0) of " + classes, x.addStmt(body, 6, 2, 0), -1);
@@ -53,7 +45,7 @@ public final class Promise06Test {
     }
 
     private static OwnerDominance full() {
-        OwnerDominance x = classes(8);
+        OwnerDominance x = Programs.classes(8);
         for (int i = 0; i < 16; i++) {
             for (int body = 0; body <= MAIN; body++) {
                 int mark = 100 * body + i;
@@ -88,7 +80,7 @@ public final class Promise06Test {
     private static void indexInOrder() {
         CHECK.says("Otherwise it appends (op, a, b) exactly as given, for any int values, and answers its index,"
                 + " which is the old statement count (0..15).");
-        OwnerDominance x = classes(8);
+        OwnerDominance x = Programs.classes(8);
         for (int i = 0; i < 16; i++) {
             for (int body = MAIN; body >= 0; body--) {
                 int mark = 100 * body + i;
@@ -125,7 +117,7 @@ public final class Promise06Test {
     private static void othersStay() {
         CHECK.says("`addStmt(body, op, a, b)` .. Nothing else changes.");
         for (int body = 0; body <= MAIN; body++) {
-            OwnerDominance x = classes(8);
+            OwnerDominance x = Programs.classes(8);
             x.addField(0, -3);
             x.setSignature(1, 4, 5);
             x.setLocal(2, 7, 6);

@@ -28,6 +28,7 @@ public final class Promise08DominanceTest {
         ownedObjectsMayMeet();
         throughANewObject();
         everyLocalOfMain();
+        everyLocalOfEveryFrame();
         nullIsNoReference();
         theObjectItself();
         CHECK.end();
@@ -329,6 +330,38 @@ public final class Promise08DominanceTest {
                 violates(x, 5);
                 CHECK.due("v" + v, x.getFrame(0, 4 + v), 1);
                 CHECK.due("pc", x.getFrame(0, 1), 3);
+            }
+        }
+    }
+
+    /** Object 0 keeps what it owns in its field; the last of some classes that call each other reads it. */
+    private static void everyLocalOfEveryFrame() {
+        CHECK.says("for every local b >= 0 of a frame with receiver r >= 0, inside(r, W0(b)).");
+        for (int depth = 1; depth <= 7; depth++) {
+            for (int v = 1; v < 8; v++) {
+                OwnerDominance x = new OwnerDominance(32);
+                for (int c = 0; c <= depth; c++) {
+                    x.addClass(0);
+                }
+                x.addField(0, 0);
+                x.addStmt(0, NEW, 2, REP);
+                x.addStmt(0, STORE, 0, 2);
+                for (int c = 1; c < depth; c++) {
+                    x.setLocal(c, 2, c + 1);
+                    x.addStmt(c, NEW, 2, c + 1);
+                    x.addStmt(c, CALL, 3, 8 * 1 + 2);
+                }
+                x.addStmt(depth, LOAD, v, 1);
+                x.setLocal(MAIN, 3, 1);
+                x.addStmt(MAIN, NEW, 0, 0);
+                x.addStmt(MAIN, CALL, 1, 8 * 2 + 0);
+                x.addStmt(MAIN, NEW, 3, 1);
+                x.addStmt(MAIN, CALL, 1, 8 * 0 + 3);
+                compile(x);
+                CHECK.due("run(5)", x.run(5), RUNNING);
+                violates(x, 2 * depth);
+                CHECK.due("getFrameCount()", x.getFrameCount(), depth + 1);
+                CHECK.due("v" + v + " of frame " + depth, x.getFrame(depth, 4 + v), 1);
             }
         }
     }

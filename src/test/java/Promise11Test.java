@@ -71,16 +71,15 @@ public final class Promise11Test {
     private static void countGrows() {
         CHECK.says("`getObjectCount()` answers the number of objects, count.");
         OwnerDominance x = maker(32);
-        int calls = 0;
-        for (int count = 1; count <= 32; count++) {
-            x.run(1);
-            // Before m makes its first object it is called, and before that it ends where it was called already.
-            for (; count > 1 && x.getObjectCount() == count - 1 && calls < 6; calls++) {
-                x.run(1);
-            }
-            CHECK.due("getObjectCount()", x.getObjectCount(), count);
-            CHECK.due("the last object", x.getObject(count - 1, 0), 0);
-            CHECK.due("one past the last", x.getObject(count, 0), -2);
+        int due = 0;
+        for (int i = 0; i < 35; i++) {
+            int top = x.getFrameCount() - 1;
+            boolean makes = x.getStmt(x.getFrame(top, 0), x.getFrame(top, 1), 0) == OwnerDominance.OP_NEW;
+            due += makes ? 1 : 0;
+            CHECK.due("run(1)", x.run(1), OwnerDominance.ST_RUNNING);
+            CHECK.due("getObjectCount()", x.getObjectCount(), due);
+            CHECK.due("the last object", x.getObject(due - 1, 0), 0);
+            CHECK.due("one past the last", x.getObject(due, 0), -2);
         }
         CHECK.due("run(1)", x.run(1), OwnerDominance.ST_HEAPFULL);
         CHECK.due("getObjectCount()", x.getObjectCount(), 32);

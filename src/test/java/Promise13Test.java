@@ -2,6 +2,8 @@
 public final class Promise13Test {
     private static final Check CHECK = new Check();
     private static final int MAIN = OwnerDominance.BODY_MAIN;
+    // Of eight classes with 0, 1, 2, 0, 1, 2, 0 and 1 formals.
+    private static final int[] SELF = {0x10, 0x311, 0x4312, 0x13, 0x314, 0x4315, 0x16, 0x317};
 
     public static void main(String[] args) {
         noSuchBody();
@@ -49,10 +51,7 @@ public final class Promise13Test {
         CHECK.says("A body id is VALID if it is 8 or in 0..classCount-1. .. `getDecl(body, item)` answers -2 if body"
                 + " is not VALID.");
         for (int classes = 0; classes <= 8; classes++) {
-            OwnerDominance x = new OwnerDominance(8);
-            for (int c = 0; c < classes; c++) {
-                x.addClass(c % 3);
-            }
+            OwnerDominance x = Programs.classes(classes);
             for (int body : Ints.notBodies(classes)) {
                 for (int item = -1; item <= 17; item++) {
                     item(x, body, item, -2);
@@ -70,7 +69,6 @@ public final class Promise13Test {
                 + " 6: formals; 7: fieldCount; 8..15: decl(v0..v7), where decl(v0) = self(c) and decl(v1) = param(c);"
                 + " 16: statement count.");
         OwnerDominance x = fullProgram();
-        int[] self = {0x10, 0x311, 0x4312, 0x13, 0x314, 0x4315, 0x16, 0x317};
         for (int c = 0; c < 8; c++) {
             for (int f = 0; f < 4; f++) {
                 item(x, c, f, 1000 + 10 * c + f);
@@ -79,7 +77,7 @@ public final class Promise13Test {
             item(x, c, 5, 3000 + c);
             item(x, c, 6, c % 3);
             item(x, c, 7, 4);
-            item(x, c, 8, self[c]);
+            item(x, c, 8, SELF[c]);
             item(x, c, 9, 2000 + c);
             for (int v = 2; v < 8; v++) {
                 item(x, c, 8 + v, 4000 + 10 * c + v);
@@ -91,10 +89,7 @@ public final class Promise13Test {
     private static void fieldsThatAreNot() {
         CHECK.says("0..3: field type (-2 if there is no such field);");
         for (int c = 0; c < 8; c++) {
-            OwnerDominance x = new OwnerDominance(8);
-            for (int n = 0; n < 8; n++) {
-                x.addClass(n % 3);
-            }
+            OwnerDominance x = Programs.classes(8);
             for (int count = 0; count <= 4; count++) {
                 item(x, c, 7, count);
                 for (int f = 0; f < 4; f++) {
@@ -153,7 +148,7 @@ public final class Promise13Test {
             item(x, c, 9, x.getDecl(c, 4));
             x.setSignature(c, 77, 78);
             item(x, c, 9, 77);
-            item(x, c, 8, new int[] {0x10, 0x311, 0x4312, 0x13, 0x314, 0x4315, 0x16, 0x317}[c]);
+            item(x, c, 8, SELF[c]);
         }
     }
 
