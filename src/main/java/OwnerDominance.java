@@ -545,7 +545,7 @@ public final class OwnerDominance {
     }
 
     private int ownerValue(int atom, int receiver) {
-        // Main has no receiver; its checked types name nothing but world.
+        // Main has no receiver; in either mode compile lets its types name nothing but world.
         if (receiver == NO_RECEIVER) {
             return WORLD;
         }
